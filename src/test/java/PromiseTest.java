@@ -163,7 +163,7 @@ public final class PromiseTest {
         due("6: witness(-1)", x.witness(-1), CoreFinder.NONE);
         due("6: witness(-32)", x.witness(-32), 0);
         due("6: witness(MAX_VALUE - 1)", x.witness(Integer.MAX_VALUE - 1), 8);
-        due("6: witness(31) for a, b, c, d", oneCoreOfFive().witness(15), 15);
+        due("6: witness(15) for a, b, c, d", oneCoreOfFive().witness(15), 15);
         CoreFinder empty = new CoreFinder();
         due("6: witness(127) of no clauses", empty.witness(127), 0);
         empty.add(0, 0);
