@@ -1,5 +1,4 @@
 import java.util.Arrays;
-import java.util.function.Consumer;
 
 // One method for each sentence of the document that the other tests use but do not ask by itself:
 // what it is, the terms, and what a call must leave alone.
@@ -21,6 +20,13 @@ public final class TermsTest {
         {1, 0, 2, 1, 0, 2, 4, 0, 0, 4, 0, 4, 15, 15},
         {1, 0, 2, 1, 4, 2, 8, 4, 0, 8, 0, 4, 0, 0},
         {1, 2, 2, 4, 4, 8, 8, 1, 15, 0, 0, 15, 1, 8}};
+
+    // How the methods are numbered in call: first those without an argument, last those that may change.
+    private static final int WITHOUT_ARGUMENT = 7;
+    private static final int QUESTIONS = 13;
+    private static final int METHODS = 15;
+    private static final int[] ONE_NUMBER = {0};
+    private static final int[] NUMBERS = {0, 1, 2, 3, 4, 6, 7, 8, 15, 16, 32, 64, 127, -1, Integer.MIN_VALUE, Integer.MAX_VALUE};
 
     private static String sentence = "";
     private static int sentences = 0;
@@ -229,6 +235,14 @@ public final class TermsTest {
         for (int set = 0; set < 8; set++) {
             due("consistent(" + set + ") of a, a gives b, not b", y.consistent(set), set != 7);
         }
+        // A set stays consistent beside a core that it has no more than a part of.
+        CoreFinder w = of(1, 0, 0, 1, 2, 0, 4, 0, 8, 0, 15, 15, 14, 1);
+        for (int set = 0; set < 128; set++) {
+            due("consistent(" + set + ") beside a and not a", w.consistent(set), !isPart(3, set));
+        }
+        for (int v = 0; v < 16; v++) {
+            due("consistent(15) where " + v + " is the only way", only(v).consistent(15), true);
+        }
         // Truth values for each by itself are there, but none for both.
         CoreFinder z = of(4, 0, 0, 4);
         due("consistent(1) of c", z.consistent(1), true);
@@ -365,31 +379,50 @@ public final class TermsTest {
         return x.consistent(-1);
     }
 
+    // The answer of a call on an object that was asked before is the one of a twin that was not.
     private static void questionsChangeNothing() {
-        changesNothing("clauses()", x -> x.clauses());
-        changesNothing("cores()", x -> x.cores());
-        changesNothing("repairs()", x -> x.repairs());
-        changesNothing("guilty()", x -> x.guilty());
-        changesNothing("central()", x -> x.central());
-        changesNothing("smallestCore()", x -> x.smallestCore());
-        changesNothing("mostTogether()", x -> x.mostTogether());
-        for (int n : new int[] {0, 1, 2, 6, 7, 15, 16, 126, 127, 128, -1, Integer.MIN_VALUE, Integer.MAX_VALUE}) {
-            changesNothing("consistent(" + n + ")", x -> x.consistent(n));
-            changesNothing("witness(" + n + ")", x -> x.witness(n));
-            changesNothing("core(" + n + ")", x -> x.core(n));
-            changesNothing("repair(" + n + ")", x -> x.repair(n));
-            changesNothing("follows(" + n + ", 0)", x -> x.follows(n, 0));
-            changesNothing("follows(0, " + n + ")", x -> x.follows(0, n));
-            changesNothing("follows(" + n + ", " + n + ")", x -> x.follows(n, n));
+        for (int[] sets : PROBLEMS) {
+            for (int later = 0; later < METHODS; later++) {
+                for (int m : later < WITHOUT_ARGUMENT ? ONE_NUMBER : NUMBERS) {
+                    int want = call(of(sets), later, m);
+                    answersAfterQuestions(sets, later, m, want);
+                }
+            }
         }
     }
 
-    private static void changesNothing(String call, Consumer<CoreFinder> question) {
-        for (int[] sets : PROBLEMS) {
-            CoreFinder asked = of(sets);
-            question.accept(asked);
-            sameAnswers("after " + call + " of " + Arrays.toString(sets), asked, of(sets));
+    private static void answersAfterQuestions(int[] sets, int later, int m, int want) {
+        for (int question = 0; question < QUESTIONS; question++) {
+            for (int n : question < WITHOUT_ARGUMENT ? ONE_NUMBER : NUMBERS) {
+                CoreFinder x = of(sets);
+                call(x, question, n);
+                int got = call(x, later, m);
+                if (got != want) {
+                    due("call " + later + " with " + m + " after question " + question + " with " + n
+                        + " of " + Arrays.toString(sets), got, want);
+                }
+            }
         }
+    }
+
+    private static int call(CoreFinder x, int method, int n) {
+        return switch (method) {
+            case 0 -> x.clauses();
+            case 1 -> x.cores();
+            case 2 -> x.repairs();
+            case 3 -> x.guilty();
+            case 4 -> x.central();
+            case 5 -> x.smallestCore();
+            case 6 -> x.mostTogether();
+            case 7 -> x.consistent(n) ? 1 : 0;
+            case 8 -> x.witness(n);
+            case 9 -> x.core(n);
+            case 10 -> x.repair(n);
+            case 11 -> x.follows(n, 0) ? 1 : 0;
+            case 12 -> x.follows(0, n) ? 1 : 0;
+            case 13 -> x.add(n, 0);
+            default -> x.remove(n) ? 1 : 0;
+        };
     }
 
     private static void anObjectChangesNoOther() {
@@ -414,7 +447,7 @@ public final class TermsTest {
         }
     }
 
-    // 421 answers, so with the ten calls at most before them the object stays within its 512.
+    // 421 answers, so with the seven calls at most before them the object stays within its 512.
     private static int[] everything(CoreFinder x) {
         int[] answers = new int[421];
         int n = 0;
